@@ -25,6 +25,7 @@ public final class PromisesTest {
         promise9Depth();
         promise10LeavesAlong();
         promise11BestValue();
+        promise11BestValueEach();
         promise12Reachable();
         promise13Range();
         promise14Asks();
@@ -374,6 +375,22 @@ public final class PromisesTest {
         }
         for (int wrong : NOT_A_POINT) {
             DUE.is("11: point " + wrong, x.bestValue(wrong, 0), BAD);
+        }
+    }
+
+    /** Two trees that let one value of the feature alone stand out, for each value of each feature. */
+    private static void promise11BestValueEach() {
+        for (int f = 0; f < 4; f++) {
+            for (int x = 0; x < 16; x++) {
+                TreeScorer scorer = new TreeScorer();
+                scorer.split(3, 0, f, x);
+                scorer.setValue(3, 0, 2);
+                if (x > 0) {
+                    scorer.split(1, 0, f, x - 1);
+                    scorer.setValue(1, 1, 1);
+                }
+                DUE.is("11: only " + x + " of feature " + f, scorer.bestValue(54321, f), x);
+            }
         }
     }
 
