@@ -32,6 +32,7 @@ public final class ChangeEdgesTest {
         DUE.sentence("2: the greatest limit, 15", ChangeEdgesTest::splitLimit15);
         DUE.sentence("2: the first and the last tree and feature", ChangeEdgesTest::splitFirstAndLast);
         DUE.sentence("2: the first leaf: all further leaves move up", ChangeEdgesTest::splitFirstLeaf);
+        DUE.sentence("2: a leaf with value 0 moves up like the others", ChangeEdgesTest::splitMovesValue0);
         DUE.sentence("2: the last leaf: no leaf moves", ChangeEdgesTest::splitLastLeaf);
         DUE.sentence("2: the left part has the value that was there, the greatest and least int too",
             ChangeEdgesTest::splitKeepsExtremeValue);
@@ -55,6 +56,7 @@ public final class ChangeEdgesTest {
         DUE.sentence("2: not FULL with six forks", ChangeEdgesTest::splitWithSixForks);
         DUE.sentence("2: FULL with seven forks", ChangeEdgesTest::splitWithSevenForks);
         DUE.sentence("2: FULL with seven forks, whatever the tree's form", ChangeEdgesTest::splitFullInEachForm);
+        DUE.sentence("2: a tree that is filled leaves the others as they were", ChangeEdgesTest::splitLeavesOthers);
         DUE.sentence("2: one tree being full, the others are not", ChangeEdgesTest::splitOthersNotFull);
         DUE.sentence("2: a FULL split changes nothing", ChangeEdgesTest::splitFullChangesNothing);
     }
@@ -199,6 +201,17 @@ public final class ChangeEdgesTest {
         }
     }
 
+    private static void splitMovesValue0() {
+        TreeScorer x = Edges.grown(2, 5);
+        x.setValue(2, 1, 0);
+        x.setValue(2, 3, 0);
+        x.split(2, 0, 3, 7);
+        int[] want = {100, 0, 0, 102, 0, 104};
+        for (int i = 0; i < want.length; i++) {
+            DUE.is("value of leaf " + i, x.value(2, i), want[i]);
+        }
+    }
+
     private static void splitLastLeaf() {
         for (int n = 1; n < 8; n++) {
             TreeScorer x = Edges.grown(2, n);
@@ -285,7 +298,7 @@ public final class ChangeEdgesTest {
     }
 
     private static void splitBadChangesNothing() {
-        Edges.changesNothing(DUE, "BAD splits", Edges.mixed(), Edges.mixed(), x -> {
+        Edges.alikeAfter(DUE, "BAD splits", Edges.mixed(), Edges.mixed(), x -> {
             for (int wrong : new int[] {-1, 16, MIN, MAX}) {
                 x.split(wrong, 0, 0, 0);
                 for (int t = 0; t < 4; t++) {
@@ -333,6 +346,14 @@ public final class ChangeEdgesTest {
         }
     }
 
+    private static void splitLeavesOthers() {
+        for (int t = 0; t < 4; t++) {
+            int filled = t;
+            Edges.alikeAfter(DUE, "tree " + t + " filled last", Edges.allFullBut(t), Edges.allFull(), x ->
+                Edges.grow(x, filled, 8, 100 * (filled + 1)));
+        }
+    }
+
     private static void splitOthersNotFull() {
         for (int full = 0; full < 4; full++) {
             TreeScorer x = Edges.grown(full, 8);
@@ -343,7 +364,7 @@ public final class ChangeEdgesTest {
     }
 
     private static void splitFullChangesNothing() {
-        Edges.changesNothing(DUE, "FULL splits", Edges.allFull(), Edges.allFull(), x -> {
+        Edges.alikeAfter(DUE, "FULL splits", Edges.allFull(), Edges.allFull(), x -> {
             for (int t = 0; t < 4; t++) {
                 for (int i = 0; i < 8; i++) {
                     DUE.is("split " + t + " " + i, x.split(t, i, i % 4, 2 * i), FULL);
@@ -422,7 +443,7 @@ public final class ChangeEdgesTest {
     }
 
     private static void setFalseChangesNothing() {
-        Edges.changesNothing(DUE, "false setValues", Edges.mixed(), Edges.mixed(), x -> {
+        Edges.alikeAfter(DUE, "false setValues", Edges.mixed(), Edges.mixed(), x -> {
             for (int wrong : new int[] {-1, 8, -8, MIN, MAX, 1 << 29}) {
                 x.setValue(wrong, 0, 12345);
                 for (int t = 0; t < 4; t++) {
@@ -475,7 +496,7 @@ public final class ChangeEdgesTest {
     }
 
     private static void clearIsLikeNew() {
-        Edges.changesNothing(DUE, "clears of all", Edges.mixed(), new TreeScorer(), x -> {
+        Edges.alikeAfter(DUE, "clears of all", Edges.mixed(), new TreeScorer(), x -> {
             for (int t = 0; t < 4; t++) {
                 x.clear(t);
             }
@@ -483,16 +504,10 @@ public final class ChangeEdgesTest {
     }
 
     private static void clearOneAlone() {
-        for (int cleared = 0; cleared < 4; cleared++) {
-            TreeScorer x = Edges.allFull();
-            DUE.is("clear " + cleared, x.clear(cleared), true);
-            for (int t = 0; t < 4; t++) {
-                DUE.is("leaves " + t, x.leaves(t), t == cleared ? 1 : 8);
-                DUE.is("asks " + t, x.asks(t), t == cleared ? 0 : 7);
-                DUE.is("first value " + t, x.value(t, 0), t == cleared ? 0 : 100 * (t + 1));
-                DUE.is("last value " + t, x.value(t, 7), t == cleared ? 0 : 100 * (t + 1) + 7);
-            }
-            DUE.is("depth of the greatest point", x.depth(65535), 21);
+        for (int t = 0; t < 4; t++) {
+            int cleared = t;
+            Edges.alikeAfter(DUE, "clear " + t, Edges.allFull(), Edges.allFullBut(t), x ->
+                DUE.is("clear " + cleared, x.clear(cleared), true));
         }
     }
 
@@ -538,7 +553,7 @@ public final class ChangeEdgesTest {
     }
 
     private static void clearChangesNothing(int[] wrong) {
-        Edges.changesNothing(DUE, "false clears", Edges.mixed(), Edges.mixed(), x -> {
+        Edges.alikeAfter(DUE, "false clears", Edges.mixed(), Edges.mixed(), x -> {
             for (int t : wrong) {
                 DUE.is("clear " + t, x.clear(t), false);
             }

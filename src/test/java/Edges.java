@@ -69,18 +69,35 @@ final class Edges {
         return x;
     }
 
-    /** All four trees have eight leaves. */
-    static TreeScorer allFull() {
+    /** Tree f parts 0 from 1 and 14 from 15 of feature f, so that the outermost points stand apart from all others. */
+    static TreeScorer endsApart() {
         TreeScorer x = new TreeScorer();
-        for (int t = 0; t < 4; t++) {
-            grow(x, t, 8, 100 * (t + 1));
+        for (int f = 0; f < 4; f++) {
+            x.split(f, 0, f, 0);
+            x.split(f, 1, f, 14);
         }
         return x;
     }
 
-    /** Two objects made alike; one gets the refused calls; then both must answer alike, whatever is asked. */
-    static void changesNothing(Due due, String name, TreeScorer with, TreeScorer without, Consumer<TreeScorer> refused) {
-        refused.accept(with);
+    /** All four trees have eight leaves. */
+    static TreeScorer allFull() {
+        return allFullBut(-1);
+    }
+
+    /** One tree is as in a new object, the others have eight leaves. */
+    static TreeScorer allFullBut(int one) {
+        TreeScorer x = new TreeScorer();
+        for (int t = 0; t < 4; t++) {
+            if (t != one) {
+                grow(x, t, 8, 100 * (t + 1));
+            }
+        }
+        return x;
+    }
+
+    /** The first of two objects gets the calls; then both must answer alike, whatever is asked. */
+    static void alikeAfter(Due due, String name, TreeScorer with, TreeScorer without, Consumer<TreeScorer> calls) {
+        calls.accept(with);
         for (int t = 0; t < 4; t++) {
             due.is(name + ", then leaves " + t, with.leaves(t), without.leaves(t));
             due.is(name + ", then reachable " + t, with.reachable(t), without.reachable(t));

@@ -21,6 +21,7 @@ public final class FeatureEdgesTest {
         DUE.sentence("10: the least value of f, 0, is tried", FeatureEdgesTest::alongLeastValue);
         DUE.sentence("10: the greatest value of f, 15, is tried", FeatureEdgesTest::alongGreatestValue);
         DUE.sentence("10: the other features stay as they are", FeatureEdgesTest::alongOthersStay);
+        DUE.sentence("10: the least and the greatest point", FeatureEdgesTest::alongLeastAndGreatest);
         DUE.sentence("10: a leaf without points is not along", FeatureEdgesTest::alongWithoutPoints);
         DUE.sentence("10: 0 when t is too small", () -> alongTree(Edges.BELOW_0));
         DUE.sentence("10: 0 when t is too large", () -> alongTree(Edges.ABOVE_3));
@@ -40,6 +41,7 @@ public final class FeatureEdgesTest {
         DUE.sentence("11: the scores are compared after the wrap below", FeatureEdgesTest::bestAfterWrapBelow);
         DUE.sentence("11: the least and the greatest int are compared as they are", FeatureEdgesTest::bestOfExtremes);
         DUE.sentence("11: the other features stay as they are", FeatureEdgesTest::bestOthersStay);
+        DUE.sentence("11: the least and the greatest point", FeatureEdgesTest::bestLeastAndGreatest);
         DUE.sentence("11: BAD when f is too small", () -> bestFeature(Edges.BELOW_0));
         DUE.sentence("11: BAD when f is too large", () -> bestFeature(Edges.ABOVE_3));
         DUE.sentence("11: BAD when the point is too small", () -> bestPoint(Edges.BELOW_0));
@@ -144,6 +146,17 @@ public final class FeatureEdgesTest {
             int right = 4 * Edges.step(other);
             DUE.is("along " + f + ", other at the limit", x.leavesAlong(2, left, f), 0b0101);
             DUE.is("along " + f + ", other above the limit", x.leavesAlong(2, right, f), 0b1010);
+        }
+    }
+
+    private static void alongLeastAndGreatest() {
+        TreeScorer x = Edges.endsApart();
+        for (int t = 0; t < 4; t++) {
+            for (int f = 0; f < 4; f++) {
+                String name = "tree " + t + " along " + f;
+                DUE.is(name + " from the least point", x.leavesAlong(t, 0, f), t == f ? 0b111 : 0b001);
+                DUE.is(name + " from the greatest point", x.leavesAlong(t, 65535, f), t == f ? 0b111 : 0b100);
+            }
         }
     }
 
@@ -280,6 +293,34 @@ public final class FeatureEdgesTest {
             DUE.is("feature " + f + ", other at the limit", x.bestValue(7 * Edges.step(other), f), 5);
             DUE.is("feature " + f + ", other above the limit", x.bestValue(8 * Edges.step(other), f), 11);
         }
+    }
+
+    private static void bestLeastAndGreatest() {
+        for (int f = 0; f < 4; f++) {
+            for (int other = 0; other < 4; other++) {
+                if (other != f) {
+                    bestAtTheEndsOf(f, other);
+                }
+            }
+        }
+    }
+
+    /** Feature f is best at 5 when the other one is 0, at 9 when it is 15, and at 12 when it is between. */
+    private static void bestAtTheEndsOf(int f, int other) {
+        TreeScorer x = new TreeScorer();
+        x.split(1, 0, other, 0);
+        x.split(1, 1, other, 14);
+        x.split(1, 2, f, 8);
+        x.split(1, 1, f, 11);
+        x.split(1, 0, f, 4);
+        for (int i = 1; i < 6; i += 2) {
+            x.setValue(1, i, 1);
+        }
+        String name = "feature " + f + ", other " + other;
+        DUE.is(name + " from the least point", x.bestValue(0, f), 5);
+        DUE.is(name + " from one more", x.bestValue(Edges.step(other), f), 12);
+        DUE.is(name + " from the greatest point", x.bestValue(65535, f), 9);
+        DUE.is(name + " from one less", x.bestValue(65535 - Edges.step(other), f), 12);
     }
 
     private static void bestFeature(int[] wrong) {

@@ -215,9 +215,17 @@ public final class LeafEdgesTest {
     }
 
     private static void scoreLeastAndGreatest() {
-        TreeScorer x = Edges.allFull();
-        DUE.is("the least point", x.score(0), 100 + 200 + 300 + 400);
-        DUE.is("the greatest point", x.score(65535), 107 + 207 + 307 + 407);
+        TreeScorer x = Edges.endsApart();
+        for (int t = 0; t < 4; t++) {
+            x.setValue(t, 0, 1);
+            x.setValue(t, 2, 10);
+        }
+        DUE.is("the least point", x.score(0), 4);
+        DUE.is("the greatest point", x.score(65535), 40);
+        for (int f = 0; f < 4; f++) {
+            DUE.is("one more than the least in feature " + f, x.score(Edges.step(f)), 3);
+            DUE.is("one less than the greatest in feature " + f, x.score(65535 - Edges.step(f)), 30);
+        }
     }
 
     private static void scoreEachTree() {
@@ -279,9 +287,21 @@ public final class LeafEdgesTest {
     }
 
     private static void depthLeastAndGreatest() {
-        TreeScorer x = Edges.allFull();
-        DUE.is("the least point", x.depth(0), 4);
-        DUE.is("the greatest point", x.depth(65535), 28);
+        TreeScorer x = new TreeScorer();
+        for (int f = 0; f < 4; f++) {
+            // Feature f comes past three forks when it is 0 or 15, and past two when it is between.
+            x.split(f, 0, f, 0);
+            x.split(f, 0, f, 0);
+            x.split(f, 0, f, 0);
+            x.split(f, 3, f, 14);
+            x.split(f, 4, f, 14);
+        }
+        DUE.is("the least point", x.depth(0), 12);
+        DUE.is("the greatest point", x.depth(65535), 12);
+        for (int f = 0; f < 4; f++) {
+            DUE.is("one more than the least in feature " + f, x.depth(Edges.step(f)), 11);
+            DUE.is("one less than the greatest in feature " + f, x.depth(65535 - Edges.step(f)), 11);
+        }
     }
 
     private static void depthForkThatPartsNothing() {
